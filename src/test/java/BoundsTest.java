@@ -8,7 +8,6 @@ public final class BoundsTest {
         firstPairsGoByX0();
         constant();
         onePairBoxes();
-        refusals();
         Check.end();
     }
 
@@ -96,23 +95,5 @@ public final class BoundsTest {
                 Check.due("no breach" + where, -2, x.breach(first, second, result));
             }
         }
-    }
-
-    private static void refusals() {
-        for (int bad : Check.badIntervals()) {
-            refused(bad, ALL);
-            refused(ALL, bad);
-            refused(bad, bad);
-        }
-    }
-
-    private static void refused(int first, int second) {
-        ReluBounds x = Check.network(19, 9);
-        String box = "(" + first + ", " + second + ")";
-        Check.due("most" + box, -1000000, x.most(first, second));
-        Check.due("least" + box, -1000000, x.least(first, second));
-        Check.due("mostAt" + box, -1, x.mostAt(first, second));
-        Check.due("safe" + box, -1, x.safe(first, second, 100));
-        Check.due("breach" + box, -1, x.breach(first, second, 100));
     }
 }

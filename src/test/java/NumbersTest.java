@@ -5,12 +5,9 @@ public final class NumbersTest {
     public static void main(String[] args) {
         newObject();
         setAtEveryPlace();
-        setRefusals();
         setTouchesOnePlace();
         sowByHand();
         sowByFormula();
-        sowRefusals();
-        getRefusals();
         objectsAreApart();
         Check.end();
     }
@@ -48,22 +45,6 @@ public final class NumbersTest {
                 Check.due("get(" + place + ") after set to " + value, held, x.get(place));
             }
         }
-    }
-
-    private static void setRefusals() {
-        ReluBounds x = new ReluBounds();
-        x.sow(17, 5);
-        int[] before = Check.numbersOf(x);
-        int[] badPlaces = {-1, 20, 21, -20, Integer.MIN_VALUE, Integer.MAX_VALUE};
-        for (int place : badPlaces) {
-            Check.due("set(" + place + ", 0)", -1, x.set(place, 0));
-            Check.due("set(" + place + ", 51)", -1, x.set(place, 51));
-        }
-        for (int place = 0; place < Check.PLACES; place++) {
-            Check.due("set(" + place + ", 51)", -2, x.set(place, 51));
-            Check.due("set(" + place + ", -51)", -2, x.set(place, -51));
-        }
-        Check.sameNumbers("after refused sets", before, x);
     }
 
     private static void setTouchesOnePlace() {
@@ -105,32 +86,6 @@ public final class NumbersTest {
                 Check.sameNumbers("after sow(" + seed + ", " + bend + ")", want, x);
             }
         }
-    }
-
-    private static void sowRefusals() {
-        ReluBounds x = Check.network(0, 5, 6, 50, 19, -50);
-        int[] before = Check.numbersOf(x);
-        int[] badSeeds = {-1, 101, Integer.MIN_VALUE, Integer.MAX_VALUE};
-        int[] badBends = {-1, 21, Integer.MIN_VALUE, Integer.MAX_VALUE};
-        for (int seed : badSeeds) {
-            Check.due("sow(" + seed + ", 0)", -1, x.sow(seed, 0));
-            Check.due("sow(" + seed + ", 21)", -1, x.sow(seed, 21));
-        }
-        for (int bend : badBends) {
-            Check.due("sow(0, " + bend + ")", -2, x.sow(0, bend));
-            Check.due("sow(100, " + bend + ")", -2, x.sow(100, bend));
-        }
-        Check.sameNumbers("after refused sows", before, x);
-    }
-
-    private static void getRefusals() {
-        ReluBounds x = Check.network(0, 1, 19, 2);
-        int[] badPlaces = {-1, 20, Integer.MIN_VALUE, Integer.MAX_VALUE};
-        for (int place : badPlaces) {
-            Check.due("get(" + place + ")", -1000, x.get(place));
-        }
-        Check.due("get(0)", 1, x.get(0));
-        Check.due("get(19)", 2, x.get(19));
     }
 
     private static void objectsAreApart() {

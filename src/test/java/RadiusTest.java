@@ -4,7 +4,6 @@ public final class RadiusTest {
         byX0();
         byX1();
         bothWays();
-        refusals();
         Check.end();
     }
 
@@ -44,20 +43,5 @@ public final class RadiusTest {
         Check.due("sum radius(15, 0, 20)", 5, x.radius(15, 0, 20));
         Check.due("sum radius(-16, -16, 29)", 30, x.radius(-16, -16, 29));
         Check.due("sum radius(-16, -16, 30)", 31, x.radius(-16, -16, 30));
-    }
-
-    private static void refusals() {
-        ReluBounds x = Check.network(19, 9);
-        for (int bad : Check.badInputs()) {
-            Check.due("radius(" + bad + ", 0, 9)", -1, x.radius(bad, 0, 9));
-            Check.due("radius(0, " + bad + ", 9)", -1, x.radius(0, bad, 9));
-            Check.due("radius(" + bad + ", 0, 8)", -1, x.radius(bad, 0, 8));
-        }
-        for (int x0 = -16; x0 <= 15; x0 += 31) {
-            for (int x1 = -16; x1 <= 15; x1 += 31) {
-                Check.due("radius(" + x0 + ", " + x1 + ", 9)", 31, x.radius(x0, x1, 9));
-                Check.due("radius(" + x0 + ", " + x1 + ", 8)", -2, x.radius(x0, x1, 8));
-            }
-        }
     }
 }

@@ -6,10 +6,8 @@ public final class UnitsTest {
         fixedInner();
         fixedOuter();
         onlyWholeInputsCount();
-        fixedRefusals();
         patternsByHand();
         onePattern();
-        patternsRefusals();
         Check.end();
     }
 
@@ -44,18 +42,6 @@ public final class UnitsTest {
         Check.due("patterns between whole inputs", 2, x.patterns(ALL, ALL));
     }
 
-    private static void fixedRefusals() {
-        ReluBounds x = new ReluBounds();
-        for (int unit : Check.badUnits()) {
-            Check.due("fixed(" + unit + ", ALL, ALL)", -1, x.fixed(unit, ALL, ALL));
-            Check.due("fixed(" + unit + ", 32, 1024)", -1, x.fixed(unit, 32, 1024));
-        }
-        for (int bad : Check.badIntervals()) {
-            Check.due("fixed(0, " + bad + ", ALL)", -2, x.fixed(0, bad, ALL));
-            Check.due("fixed(4, ALL, " + bad + ")", -2, x.fixed(4, ALL, bad));
-        }
-    }
-
     // The marks are x0 > 0, x1 > 0, x0 + x1 < 0, x0 > 5, x0 + x1 < -20.
     private static void patternsByHand() {
         ReluBounds x = Check.network(0, 1, 3, 1, 4, -1, 5, -1);
@@ -80,13 +66,5 @@ public final class UnitsTest {
         ReluBounds both = Check.network(0, 1, 2, 1, 4, 1, 9, 1, 12, 1);
         Check.due("patterns, every unit and none", 2, both.patterns(ALL, ALL));
         Check.due("patterns, one pair", 1, both.patterns(Check.interval(15, 15), Check.interval(-16, -16)));
-    }
-
-    private static void patternsRefusals() {
-        ReluBounds x = new ReluBounds();
-        for (int bad : Check.badIntervals()) {
-            Check.due("patterns(" + bad + ", ALL)", -1, x.patterns(bad, ALL));
-            Check.due("patterns(ALL, " + bad + ")", -1, x.patterns(ALL, bad));
-        }
     }
 }

@@ -4,7 +4,6 @@ public final class ValuesTest {
         everyNumberCounts();
         clipsAtZero();
         greatestSize();
-        refusals();
         Check.end();
     }
 
@@ -46,25 +45,5 @@ public final class ValuesTest {
             Check.due("unit(" + unit + ", " + x0 + ", " + x1 + ")", want[unit], x.unit(unit, x0, x1));
         }
         Check.due("result(" + x0 + ", " + x1 + ")", want[5], x.result(x0, x1));
-    }
-
-    private static void refusals() {
-        ReluBounds x = Check.network(6, 1, 9, 1, 17, 1);
-        for (int bad : Check.badInputs()) {
-            Check.due("result(" + bad + ", 0)", -1000000, x.result(bad, 0));
-            Check.due("result(0, " + bad + ")", -1000000, x.result(0, bad));
-            Check.due("unit(0, " + bad + ", 0)", -2, x.unit(0, bad, 0));
-            Check.due("unit(4, 0, " + bad + ")", -2, x.unit(4, 0, bad));
-            for (int unit : Check.badUnits()) {
-                Check.due("unit(" + unit + ", 0, 0)", -1, x.unit(unit, 0, 0));
-                Check.due("unit(" + unit + ", " + bad + ", 0)", -1, x.unit(unit, bad, 0));
-            }
-        }
-        for (int x0 = -16; x0 <= 15; x0 += 31) {
-            for (int x1 = -16; x1 <= 15; x1 += 31) {
-                Check.due("result(" + x0 + ", " + x1 + ")", 1, x.result(x0, x1));
-                Check.due("unit(0, " + x0 + ", " + x1 + ")", 1, x.unit(0, x0, x1));
-            }
-        }
     }
 }
