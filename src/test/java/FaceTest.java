@@ -6,14 +6,19 @@ import java.util.HashSet;
 import java.util.Set;
 import java.util.TreeSet;
 
-/** The public face is the document's and no more, and the fields are what LANGUAGE.md allows. */
+/** The public face is the document's and no more, and types and fields are what LANGUAGE.md allows. */
 public final class FaceTest {
     private static final Set<String> FACE = Set.of("set/2", "sow/2", "get/1", "result/2", "unit/3",
             "most/2", "least/2", "mostAt/2", "safe/3", "breach/3", "fixed/3", "radius/3", "patterns/2");
+    private static final Set<Class<?>> NUMBERS = Set.of(int.class, long.class, short.class, byte.class,
+            char.class, boolean.class);
+    private static final int MOST_PARAMETERS = 7;
+    private static final int MOST_FIELDS = 40;
 
     public static void main(String[] args) {
         theClass();
         theMethods();
+        thePrivateMethods();
         theFields();
         Check.end();
     }
@@ -52,14 +57,40 @@ public final class FaceTest {
         }
     }
 
+    // Rules 2, 4 and 10: what a method takes and answers.
+    private static void thePrivateMethods() {
+        for (Method method : ReluBounds.class.getDeclaredMethods()) {
+            if (Modifier.isPrivate(method.getModifiers())) {
+                Class<?> answer = method.getReturnType();
+                Check.due(method + " answers no object and no array", 1,
+                        answer == void.class || NUMBERS.contains(answer) ? 1 : 0);
+                for (Class<?> type : method.getParameterTypes()) {
+                    Check.due(method + " takes numbers and rows of them", 1, isAllowed(type) ? 1 : 0);
+                }
+                Check.due(method + " takes at most seven", 1,
+                        method.getParameterCount() <= MOST_PARAMETERS ? 1 : 0);
+            }
+        }
+    }
+
+    private static boolean isAllowed(Class<?> type) {
+        return NUMBERS.contains(type) || type.isArray() && NUMBERS.contains(type.getComponentType());
+    }
+
+    // Rules 1, 2, 5 and 10: what the fields are, and how many.
     private static void theFields() {
+        int ofObject = 0;
         for (Field field : ReluBounds.class.getDeclaredFields()) {
             int modifiers = field.getModifiers();
             Check.due(field + " is private", 1, Modifier.isPrivate(modifiers) ? 1 : 0);
+            Check.due(field + " is a number or a row of them", 1, isAllowed(field.getType()) ? 1 : 0);
             if (Modifier.isStatic(modifiers)) {
                 boolean number = field.getType() == int.class || field.getType() == long.class;
                 Check.due(field + " is a constant number", 1, number && Modifier.isFinal(modifiers) ? 1 : 0);
+            } else {
+                ofObject++;
             }
         }
+        Check.due("fields beside the constants are at most some forty", 1, ofObject <= MOST_FIELDS ? 1 : 0);
     }
 }
